@@ -176,6 +176,10 @@ public final class PromiseTest {
         due("claims of 0 are no signs", x.told(0, 7), 0);
         x.rule(0, 1);
         due("nor with the line at 1", x.told(0, 7), 0);
+        tells(x, "cost 1");
+        x.days(1);
+        x.rule(0, 2);
+        due("a claim of 1 is one", x.told(0, 7), 4);
     }
 
     private static void claim() {
@@ -444,7 +448,19 @@ public final class PromiseTest {
         tells(y, "cost 1");
         y.rule(2, 1);
         due("without signs", y.days(1), 1);
+        due("caught of all", y.coins(3), 1);
         due("none is above what it cost", y.days(1), 0);
+        // the first has more signs than those behind it
+        RoundFigures w = new RoundFigures();
+        w.traveller(5, 1, 0);
+        w.traveller(2, 1, 1);
+        w.traveller(2, 1, 1);
+        w.rule(2, 1);
+        tells(w, "cost 1");
+        due("the ghost", w.days(1), 1);
+        due("the ghost", w.told(0, 5), 1);
+        w.rule(1, 0);
+        due("no looks", w.days(1), 0);
     }
 
     private static int zAfter(int z, int draws) {
@@ -539,6 +555,8 @@ public final class PromiseTest {
         due("pad", x.bestLine(1, 1), 30);
         tells(x, "cost 119");
         due("up to 120", x.bestLine(1, 0), 120);
+        tells(x, "cost 120");
+        due("121 is not thought of", x.bestLine(1, 0), 1);
     }
 
     private static void bestLooks() {
@@ -565,6 +583,13 @@ public final class PromiseTest {
         due("what below", x.bestLooks(1, 1, -1), BAD);
         due("what above", x.bestLooks(1, 1, 2), BAD);
         due("of none", new RoundFigures().bestLooks(60, 999, 0), 0);
+        RoundFigures y = new RoundFigures();
+        for (int i = 0; i < 8; i++) {
+            y.traveller(2, 1, 1);
+        }
+        y.rule(2, 1);
+        due("all eight", y.bestLooks(1, 0, 0), 8);
+        due("none lies unseen", y.bestLooks(1, 0, 1), 0);
     }
 
     private static void without() {
@@ -609,6 +634,7 @@ public final class PromiseTest {
         // draws as ever: without the one that the lot names, none is caught
         due("by lot", x.without(1, 0), looked == 0 ? 1 : 0);
         due("by lot", x.without(1, 1), 99);
+        due("none is away for good", x.behind(1, 0), 2 * 99);
     }
 
     private static void flat() {
@@ -627,6 +653,8 @@ public final class PromiseTest {
         due("just as much", x.flat(60), 33);
         x.traveller(1, 0, 0);
         due("or more: 101 by 3", x.flat(1), 34);
+        x.turns(2, 0);
+        due("or more: 97 by 3", x.flat(1), 33);
         due("n above", x.flat(61), BAD);
         due("n below", x.flat(0), BAD);
     }
@@ -639,6 +667,7 @@ public final class PromiseTest {
         x.traveller(0, 0, 0);
         tells(x, "cost (d=3)*5");
         // a 5 on day 3 stands among the claims on days 3 to 8
+        due("the only one", x.standsOut(0, 1), 0);
         due("the only one", x.standsOut(0, 3), 0);
         due("the only one", x.standsOut(0, 4), 1);
         due("the only one", x.standsOut(0, 60), 6);
@@ -684,6 +713,9 @@ public final class PromiseTest {
         x.mark(1, 2, 13 + 2 * 17);
         due("numbers alone, claimed in all", x.bentBy(1, 0, 0), 7);
         due("differences", x.bentBy(1, 0, 1), 0);
+        x.mark(1, 0, 3);
+        due("place 0 is of now", x.bentBy(1, 0, 1), 10);
+        x.mark(1, 0, NONE);
         x.mark(1, 1, 0);
         x.mark(1, 2, 47);
         due("of several the least", x.bentBy(1, 0, 1), 30);
@@ -779,6 +811,11 @@ public final class PromiseTest {
         faultAt("cost 5", good);
         faultAt("costn", 0);
         faultAt("costs n", 0);
+        faultAt("costa n", 0);
+        faultAt("costz n", 0);
+        faultAt("bost n", 0);
+        faultAt("cose n", 0);
+        faultAt("mine s", 0);
         faultAt("cos t", 0);
         faultAt(" Cost n", 1);
         faultAt("5 n", 0);
@@ -1296,6 +1333,28 @@ public final class PromiseTest {
             due("the tape stays", x.count(7), 12);
             x.trim(0);
         }
+        comesAnew();
+    }
+
+    /** What came behind the image leaves nothing to those who come in its place. */
+    private static void comesAnew() {
+        RoundFigures x = new RoundFigures();
+        x.keep();
+        x.traveller(2, 40, 9);
+        tells(x, "cost n");
+        x.days(7);
+        // caught on the first day: half of 9 on the second
+        due("claimed", x.claim(0, 5), 44);
+        x.back();
+        due("no such text", x.textTold(0, 0), BAD);
+        x.traveller(0, 1, 2);
+        for (int what = 3; what < 8; what++) {
+            due("0 at first", x.told(0, what), 0);
+        }
+        for (int i = 0; i < 6; i++) {
+            due("0 at first", x.claim(0, i), 0);
+        }
+        due("the number is free again", tells(x, "fee 3"), 0);
     }
 
     private static void change(RoundFigures x) {
