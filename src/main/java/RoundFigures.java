@@ -26,6 +26,7 @@ public final class RoundFigures {
     private final World image = new World(laws);
     /** What is only thought happens here, so that nothing is made anew for it. */
     private final World thought = new World(laws);
+    private final Least least = new Least();
     private boolean kept = false;
 
     private final int[] tape = new int[MOST_BYTES];
@@ -209,57 +210,45 @@ public final class RoundFigures {
         if (!within(n, 1, 30) || !within(what, 0, 1)) {
             return BAD;
         }
-        int best = 0;
-        int least = 0;
+        least.begin();
         for (int line = 1; line <= LINES_THOUGHT; line++) {
             thought.become(now);
             thought.line = line;
             thought.pass(n);
-            int pad = thought.pad();
-            if (best == 0 || pad < least) {
-                best = line;
-                least = pad;
-            }
+            least.offer(line, thought.pad());
         }
-        return what == 0 ? best : least;
+        return what == 0 ? least.place : least.sum;
     }
 
     public int bestLooks(int n, int p, int what) {
         if (!within(n, 1, 60) || !within(p, 0, 999) || !within(what, 0, 1)) {
             return BAD;
         }
-        int best = -1;
-        int least = 0;
+        least.begin();
         for (int looks = 0; looks <= MOST_LOOKS; looks++) {
             thought.become(now);
             thought.looks = looks;
             thought.pass(n);
-            int sum = thought.pad() + p * looks * n;
-            if (best < 0 || sum < least) {
-                best = looks;
-                least = sum;
-            }
+            least.offer(looks, thought.pad() + p * looks * n);
         }
-        return what == 0 ? best : least;
+        return what == 0 ? least.place : least.sum;
     }
 
     public int without(int n, int what) {
         if (!within(n, 1, 60) || !within(what, 0, 1)) {
             return BAD;
         }
-        int best = NONE;
-        int least = NONE;
+        if (now.count == 0) {
+            return NONE;
+        }
+        least.begin();
         for (int who = 0; who < now.count; who++) {
             thought.become(now);
             thought.absent = who;
             thought.pass(n);
-            int pad = thought.pad();
-            if (best == NONE || pad < least) {
-                best = who;
-                least = pad;
-            }
+            least.offer(who, thought.pad());
         }
-        return what == 0 ? best : least;
+        return what == 0 ? least.place : least.sum;
     }
 
     public int flat(int n) {
@@ -298,16 +287,11 @@ public final class RoundFigures {
         if (sheets[sheet].sort == MISSING) {
             return NOTHING;
         }
-        int best = -1;
-        int least = 0;
+        least.begin();
         for (int bent = 0; bent <= BENTS_THOUGHT; bent++) {
-            int differences = differencesBy(sheets[sheet], traveller, bent);
-            if (best < 0 || differences < least) {
-                best = bent;
-                least = differences;
-            }
+            least.offer(bent, differencesBy(sheets[sheet], traveller, bent));
         }
-        return what == 0 ? best : least;
+        return what == 0 ? least.place : least.sum;
     }
 
     public int fee() {
@@ -945,6 +929,25 @@ public final class RoundFigures {
 
         int pad() {
             return claimedOfAll() - spentOfAll();
+        }
+    }
+
+    /** The least sum of those that were offered, of several the first, with what it was offered for. */
+    private static final class Least {
+        private boolean any = false;
+        int place = 0;
+        int sum = 0;
+
+        void begin() {
+            any = false;
+        }
+
+        void offer(int newPlace, int newSum) {
+            if (!any || newSum < sum) {
+                any = true;
+                place = newPlace;
+                sum = newSum;
+            }
         }
     }
 
