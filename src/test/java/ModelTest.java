@@ -1000,6 +1000,9 @@ public final class ModelTest {
         }
 
         void play() {
+            if (number == 0) {
+                allAreBest();
+            }
             if (number % 7 == 3) {
                 toTheEnd();
             }
@@ -1019,6 +1022,17 @@ public final class ModelTest {
                     images();
                 }
             }
+        }
+
+        /** A rare state (the lot seldom meets one): with all there less is padded than without any one of them. */
+        void allAreBest() {
+            same("seed", x.seed(187578), m.seed(187578));
+            same("deal", x.deal(4), m.deal(4));
+            same("rule", x.rule(2, 1), m.rule(2, 1));
+            same("rule", x.rule(1, 2), m.rule(1, 2));
+            same("behind(22, 0) is less than without(22, 1)", x.behind(22, 0) < x.without(22, 1) ? 1 : 0, 1);
+            same("without(22, 0)", x.without(22, 0), m.without(22, 0));
+            same("without(22, 1)", x.without(22, 1), m.without(22, 1));
         }
 
         void toTheEnd() {
