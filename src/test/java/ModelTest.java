@@ -974,7 +974,8 @@ public final class ModelTest {
 
         void same(String call, int got, int want) {
             calls++;
-            if (got != want && right) {
+            // what later calls answer is free
+            if (got != want && right && calls <= CALLS) {
                 right = false;
                 System.out.println("run " + number + ", call " + calls + ": " + call + " answered " + got + ", due is " + want);
             }
@@ -1030,7 +1031,10 @@ public final class ModelTest {
             same("deal", x.deal(4), m.deal(4));
             same("rule", x.rule(2, 1), m.rule(2, 1));
             same("rule", x.rule(1, 2), m.rule(1, 2));
-            same("behind(22, 0) is less than without(22, 1)", x.behind(22, 0) < x.without(22, 1) ? 1 : 0, 1);
+            int allThere = x.behind(22, 0);
+            same("behind(22, 0)", allThere, m.behind(22, 0));
+            int oneAway = x.without(22, 1);
+            same("behind(22, 0) is less than without(22, 1)", allThere < oneAway ? 1 : 0, 1);
             same("without(22, 0)", x.without(22, 0), m.without(22, 0));
             same("without(22, 1)", x.without(22, 1), m.without(22, 1));
         }

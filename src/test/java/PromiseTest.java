@@ -1236,19 +1236,18 @@ public final class PromiseTest {
         x.tell(1);
         due("no image", x.check(1), NO);
         due("none waits", x.count(6), 0);
-        x.seed(6);
-        x.deal(7);
-        x.days(5);
-        x.keep();
         int[] rows = new int[60];
+        x = withImage();
         for (int i = 0; i < 30; i++) {
             x.days(1);
             rows[2 * i] = x.coins(1);
             rows[2 * i + 1] = x.coins(2);
         }
-        x.rule(0, 7);
-        x.traveller(0, 0, 0);
         for (int n : new int[] {1, 2, 13, 30}) {
+            x = withImage();
+            x.days(8);
+            x.rule(0, 7);
+            x.traveller(0, 0, 0);
             told(x, rows, 2 * n);
             due("all " + n, x.check(n), 0);
             due("none waits", x.count(6), 0);
@@ -1259,6 +1258,7 @@ public final class PromiseTest {
                 due("one too many", x.check(n), 2 * n + 1);
             }
             for (int i = 0; i < 2 * n; i += 3) {
+                x = withImage();
                 rows[i]++;
                 told(x, rows, 2 * n);
                 due("the first that is not", x.check(n), 1 + i);
@@ -1268,6 +1268,15 @@ public final class PromiseTest {
         due("all are missing", x.check(3), 1);
         due("n above", x.check(31), BAD);
         checkAtTheEnd();
+    }
+
+    private static RoundFigures withImage() {
+        RoundFigures x = new RoundFigures();
+        x.seed(6);
+        x.deal(7);
+        x.days(5);
+        x.keep();
+        return x;
     }
 
     private static void told(RoundFigures x, int[] rows, int many) {
