@@ -10,6 +10,7 @@ final class Bounds {
     static final int BAD = RoundFigures.BAD, NO = RoundFigures.NO, FULL = RoundFigures.FULL, NONE = RoundFigures.NONE;
     static final int NOTHING = RoundFigures.NOTHING, KIND = RoundFigures.KIND, INDEX = RoundFigures.INDEX, SIZE = RoundFigures.SIZE;
     static final int MIN = Integer.MIN_VALUE, MAX = Integer.MAX_VALUE;
+    private static final int MOST_SECONDS = 120;
 
     interface Script {
         void on(RoundFigures x);
@@ -30,8 +31,25 @@ final class Bounds {
     private int wrong;
 
     Bounds(String name) {
+        watch(name);
         this.name = name;
         this.document = documentHere();
+    }
+
+    /** A call that never ends is wrong too: without this no test would ever tell it. */
+    static void watch(String name) {
+        Thread watcher = new Thread(() -> {
+            try {
+                Thread.sleep(MOST_SECONDS * 1000L);
+            } catch (InterruptedException e) {
+                return;
+            }
+            System.out.println(name + ": a call does not end, or takes far too long");
+            System.out.flush();
+            Runtime.getRuntime().halt(1);
+        });
+        watcher.setDaemon(true);
+        watcher.start();
     }
 
     private static String documentHere() {

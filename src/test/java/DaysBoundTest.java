@@ -34,6 +34,7 @@ public final class DaysBoundTest {
         howManyWereCaught();
         coins();
         whoStandsOut();
+        coinsOfThoseWhoAre();
         coinsRefused();
         b.end(12, 14);
     }
@@ -495,6 +496,41 @@ public final class DaysBoundTest {
         RoundFigures y = claimants(0, 11, 15, 20);
         y.rule(LINE, 12);
         b.due("by the LINE now", y.coins(4), 0);
+    }
+
+    /** Those who came behind an image and are gone with back() are in no sum. */
+    private static void coinsOfThoseWhoAre() {
+        b.says(14, "0 SPENT of all, 1 CLAIMED of all, 2 PAD, 3 CAUGHT of all");
+        RoundFigures x = new RoundFigures();
+        x.keep();
+        Bounds.tells(x, "cost n");
+        x.traveller(GHOST, 20, 0);
+        x.traveller(GHOST, 20, 0);
+        x.rule(LOOKS, 1);
+        x.days(9);
+        x.rule(LOOKS, 0);
+        x.days(9);
+        x.back();
+        for (int what = 0; what < 4; what++) {
+            b.due("coins(" + what + ") of none", x.coins(what), 0);
+        }
+        b.due("coins(4) of none", x.coins(4), NONE);
+        x.traveller(TRAVELLER, 11, 0);
+        for (int what = 0; what < 5; what++) {
+            b.due("coins(" + what + ") of one who just came", x.coins(what), 0);
+        }
+        x.rule(LOOKS, 0);
+        Bounds.tells(x, "cost n");
+        x.days(1);
+        int[] want = {11, 11, 0, 0, 0};
+        for (int what = 0; what < 5; what++) {
+            b.due("coins(" + what + ") of one", x.coins(what), want[what]);
+        }
+        RoundFigures eight = claimants(8, 12, 14, 16, 18, 12, 14, 16, 20);
+        int[] wants = {61, 61, 0, 8, 7};
+        for (int what = 0; what < 5; what++) {
+            b.due("coins(" + what + ") of eight", eight.coins(what), wants[what]);
+        }
     }
 
     private static void coinsRefused() {

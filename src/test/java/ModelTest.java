@@ -1293,6 +1293,9 @@ public final class ModelTest {
 
     public static void main(String[] args) {
         int runs = args.length > 0 ? Integer.parseInt(args[0]) : RUNS;
+        if (runs <= RUNS) {
+            Bounds.watch("ModelTest");
+        }
         int wrong = 0;
         int calls = 0;
         for (int i = 0; i < runs; i++) {

@@ -50,6 +50,7 @@ public final class PromiseTest {
     }
 
     public static void main(String[] args) {
+        Bounds.watch("PromiseTest");
         aNewObject();
         traveller();
         told();

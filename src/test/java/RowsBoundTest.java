@@ -11,6 +11,7 @@ public final class RowsBoundTest {
         daysTold();
         firstThatIsNot();
         missingOnes();
+        missingBehindOthers();
         oneTooMany();
         noneWaitThen();
         upToThirtyDays();
@@ -127,6 +128,32 @@ public final class RowsBoundTest {
                 rows(x, 1, told);
                 b.due(told + " of " + 2 * n, x.check(n), 1 + told);
             }
+        }
+    }
+
+    /** What waited before must not stand in for what is missing, nor must places that were never used. */
+    private static void missingBehindOthers() {
+        b.says(39, "is missing");
+        for (int told = 0; told < 4; told++) {
+            RoundFigures x = ghost();
+            x.keep();
+            rows(x, 1, 4);
+            b.due("all", x.check(2), 0);
+            rows(x, 1, told);
+            b.due(told + " of 4 behind 4", x.check(2), 1 + told);
+            RoundFigures honest = ghost();
+            honest.turns(0, 0);
+            honest.keep();
+            for (int i = 0; i < told; i++) {
+                honest.tell(i % 2 == 0 ? 40 * (1 + i / 2) : 0);
+            }
+            b.due(told + " of 4, PAD is 0", honest.check(2), 1 + told);
+            RoundFigures none = new RoundFigures();
+            none.keep();
+            for (int i = 0; i < told; i++) {
+                none.tell(0);
+            }
+            b.due(told + " of 4, all are 0", none.check(2), 1 + told);
         }
     }
 

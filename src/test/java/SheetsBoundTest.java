@@ -258,8 +258,16 @@ public final class SheetsBoundTest {
         x.traveller(0, 44, 5);
         needs("one who comes then", x, 0, 0, 0, 44);
         RoundFigures none = new RoundFigures();
-        none.sheet(0, SHORTS, 5);
+        put(none, 0, SHORTS, 5, 6, 7);
         b.due("no TRAVELLERS", none.pour(0), 0);
+        RoundFigures three = withNeeds(10, 20, 30);
+        put(three, 0, SHORTS, 10, 20, 31, 40, 50);
+        b.due("numbers beyond the TRAVELLERS", three.pour(0), 1);
+        needs("numbers beyond", three, 10, 20, 31);
+        RoundFigures eight = withNeeds(1, 2, 3, 4, 5, 6, 7, 8);
+        put(eight, 0, SHORTS, 8, 7, 6, 5, 4, 3, 2, 1, 99, 99, 99);
+        b.due("eight and more places", eight.pour(0), 8);
+        needs("eight", eight, 8, 7, 6, 5, 4, 3, 2, 1);
     }
 
     private static void pourRefused() {

@@ -220,6 +220,13 @@ public final class TextsBoundTest {
         for (String s : new String[] {"cos 1", "costs 1", "xcost 1", "fe 1", "feee 1", "fees 1", "fin 1", "finee 1", "coss 1", "cast 1", "fed 1", "fins 1", "n 1", "1 1", "feecost 1"}) {
             fault(s, 0);
         }
+        for (String key : new String[] {"cost", "fee", "fine"}) {
+            for (int i = 0; i < key.length(); i++) {
+                fault(key.substring(0, i) + 'x' + key.substring(i + 1) + " 1", 0);
+                fault(key.substring(0, i) + key.substring(i + 1) + " 1", 0);
+                fault(key.substring(0, i) + 'x' + key.substring(i) + " 1", 0);
+            }
+        }
         fault("Cost 1", 0);
         fault("COST 1", 0);
         fault("(cost) 1", 0);

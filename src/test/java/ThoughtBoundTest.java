@@ -10,11 +10,14 @@ public final class ThoughtBoundTest {
         nothingChanges();
         withoutTheBoundOfTheDay();
         zAsItIs();
+        oneBehindAnother();
+        noneOfThoseWhoAreGone();
         behindBounds();
         behindSigns();
         behindRefused();
         bestLineBounds();
         bestLineTies();
+        bestLineSigns();
         bestLineDays();
         bestLineRefused();
         bestLooksBounds();
@@ -24,6 +27,7 @@ public final class ThoughtBoundTest {
         withoutBySigns();
         withoutByLot();
         withoutOne();
+        withoutAnyone();
         withoutRefused();
         flatAsMuchOrMore();
         flatIsOfWhatComes();
@@ -122,6 +126,56 @@ public final class ThoughtBoundTest {
         }
     }
 
+    private static void oneBehindAnother() {
+        b.says(15, "nothing changes.)");
+        Bounds.Call[] calls = {
+            x -> x.behind(9, 0), x -> x.behind(9, 4), x -> x.bestLine(9, 0), x -> x.bestLine(9, 1), x -> x.bestLooks(9, 5, 0), x -> x.bestLooks(9, 5, 1),
+            x -> x.without(9, 0), x -> x.without(9, 1), x -> x.flat(9), x -> x.standsOut(1, 9), x -> x.bentBy(0, 0, 0), x -> x.bentBy(0, 0, 1),
+        };
+        for (int first = 0; first < calls.length; first++) {
+            for (int second = 0; second < calls.length; second++) {
+                RoundFigures x = Bounds.made(Bounds::some);
+                calls[first].on(x);
+                b.due("call " + second + " behind call " + first, calls[second].on(x), calls[second].on(Bounds.made(Bounds::some)));
+            }
+        }
+        // the least of one call must not be that of the next one
+        RoundFigures x = all(GHOST, 0, 40, 41);
+        b.due("bestLine(1, 1)", x.bestLine(1, 1), 0);
+        b.due("without(1, 0)", x.without(1, 0), 0);
+        b.due("without(1, 1)", x.without(1, 1), 8);
+        b.due("bestLooks(1, 999, 1)", x.bestLooks(1, 999, 1), 17);
+        b.due("bestLooks(1, 999, 0)", x.bestLooks(1, 999, 0), 0);
+        x.sheet(0, 0, 1);
+        x.mark(0, 0, 500);
+        b.due("bentBy(0, 0, 1)", x.bentBy(0, 0, 1), 500);
+        b.due("bestLine(1, 1)", x.bestLine(1, 1), 0);
+    }
+
+    /** Those who came behind an image and are gone with back() are in nothing that is thought. */
+    private static void noneOfThoseWhoAreGone() {
+        b.says(15, "BEHIND n DAYS: PAD; CLAIMED of all; CAUGHT of all; SIGNS of a TRAVELLER.");
+        RoundFigures x = all(TRAVELLER, 0, 15);
+        x.keep();
+        x.traveller(GHOST, 0, 0);
+        x.traveller(GHOST, 0, 0);
+        x.rule(LOOKS, 8);
+        x.rule(MODE, BY_SIGNS);
+        x.days(9);
+        x.behind(9, 0);
+        x.back();
+        b.due("behind(2, 0)", x.behind(2, 0), 0);
+        b.due("behind(2, 1)", x.behind(2, 1), 30);
+        b.due("behind(2, 2)", x.behind(2, 2), 0);
+        b.due("behind(2, 4)", x.behind(2, 4), BAD);
+        b.due("standsOut(0, 9)", x.standsOut(0, 9), 9);
+        b.due("without(2, 0)", x.without(2, 0), 0);
+        b.due("flat(2)", x.flat(2), 15);
+        x.traveller(TRAVELLER, 11, 0);
+        b.due("standsOut(0, 9) of two", x.standsOut(0, 9), 9);
+        b.due("standsOut(1, 9) of two", x.standsOut(1, 9), 0);
+    }
+
     // ---- promise 15
 
     private static void behindBounds() {
@@ -209,6 +263,19 @@ public final class ThoughtBoundTest {
         RoundFigures two = all(PADDER, 5, 20, 40);
         b.due("of two as good the least", two.bestLine(1, 0), 21);
         b.due("of two as good the least", two.bestLine(1, 1), 5);
+    }
+
+    private static void bestLineSigns() {
+        b.says(16, "the LINE 1 .. 120 with which PAD behind n DAYS is least");
+        // a rounder claims 25 by any line; the look goes to one who claims 30, but by 26 to the rounder
+        RoundFigures x = all(TRAVELLER, 0, 30);
+        x.traveller(ROUNDER, 21, 0);
+        x.rule(LOOKS, 1);
+        x.rule(MODE, BY_SIGNS);
+        for (int n : new int[] {1, 2, 30}) {
+            b.due("line for " + n, x.bestLine(n, 0), 26);
+            b.due("pad for " + n, x.bestLine(n, 1), 0);
+        }
     }
 
     private static void bestLineDays() {
@@ -312,6 +379,23 @@ public final class ThoughtBoundTest {
         RoundFigures honest = all(TRAVELLER, 0, 10, 20);
         b.due("spends nothing", honest.without(9, 0), 0);
         b.due("spends nothing", honest.without(9, 1), 0);
+        // PAD is of all, what was padded before now too
+        RoundFigures x = all(GHOST, 0, 48, 44, 46);
+        x.days(2);
+        b.due("who, behind 2 days", x.without(7, 0), 1);
+        b.due("pad, behind 2 days", x.without(7, 1), 2 * 9 + 7 * 4);
+    }
+
+    /** A rare state: with all there less is padded than without any one of them, but one is to be named. */
+    private static void withoutAnyone() {
+        b.says(18, "WITHOUT: the TRAVELLER without whom");
+        RoundFigures x = new RoundFigures();
+        x.seed(187578);
+        x.deal(4);
+        x.rule(MODE, BY_SIGNS);
+        x.rule(LOOKS, 2);
+        b.due("all there are best", x.behind(22, 0) < x.without(22, 1) ? 1 : 0, 1);
+        b.due("one is named", x.without(22, 0) >= 0 && x.without(22, 0) < 4 ? 1 : 0, 1);
     }
 
     private static void withoutBySigns() {

@@ -162,6 +162,24 @@ public final class TravellersBoundTest {
         for (int i = 0; i < 6; i++) {
             b.due("claim(1, " + i + ")", x.claim(1, i), 0);
         }
+        // nor has one anything of another who had its number
+        RoundFigures y = new RoundFigures();
+        y.keep();
+        y.traveller(GHOST, 30, 10);
+        y.days(1);
+        y.rule(1, 0);
+        y.days(8);
+        b.due("CAUGHT of the other", y.told(0, 5), 1);
+        b.due("days since of the other", y.told(0, 6), 8);
+        y.back();
+        y.traveller(CLIMBER, 1, 2);
+        for (int what = 3; what < 8; what++) {
+            b.due("told(0, " + what + ") behind back()", y.told(0, what), 0);
+        }
+        for (int i = 0; i < 6; i++) {
+            b.due("claim(0, " + i + ") behind back()", y.claim(0, i), 0);
+        }
+        b.due("asksFor(0, 10) behind back()", y.asksFor(0, 10), 12);
     }
 
     private static void toldRefused() {
