@@ -20,7 +20,8 @@ final class Bounds {
         int on(RoundFigures x);
     }
 
-    private static final int[] ROWS_OF_FULL = rowsOfFull();
+    /** Made when they are first wanted: a call that never ends must not stop this class from watching. */
+    private static int[] rowsOfFull;
 
     private final String name;
     private final String document;
@@ -229,7 +230,10 @@ final class Bounds {
     /** No room for a traveller, a text, a byte, a number that waits. */
     static void full(RoundFigures x) {
         fullButForRows(x);
-        for (int told : ROWS_OF_FULL) {
+        if (rowsOfFull == null) {
+            rowsOfFull = makeRowsOfFull();
+        }
+        for (int told : rowsOfFull) {
             x.tell(told);
         }
         feeds(x, "fee" + " ".repeat(92) + "7");
@@ -246,7 +250,7 @@ final class Bounds {
         x.keep();
     }
 
-    private static int[] rowsOfFull() {
+    private static int[] makeRowsOfFull() {
         RoundFigures x = made(Bounds::fullButForRows);
         int[] rows = new int[60];
         for (int i = 0; i < rows.length; i += 2) {
