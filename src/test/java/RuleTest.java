@@ -37,6 +37,7 @@ public final class RuleTest {
     public static void main(String[] args) throws IOException {
         face();
         String source = Files.readString(Path.of("src/main/java/RoundFigures.java"));
+        asTheDocument(Files.readString(Path.of("../shared/DOC.md")), source);
         words(source);
         sizes(source);
         whatIsMade();
@@ -74,6 +75,29 @@ public final class RuleTest {
         Constructor<?>[] made = c.getDeclaredConstructors();
         holds("one public constructor", made.length == 1 && Modifier.isPublic(made[0].getModifiers()) && made[0].getParameterCount() == 0);
         inside(names);
+    }
+
+    /** Every line of the document's face stands in the source, in its order, under the heading that the document tells. */
+    private static void asTheDocument(String document, String source) {
+        Matcher face = Pattern.compile("(?s)```java\n(.*?)```").matcher(document);
+        if (!face.find()) {
+            holds("the document has a face", false);
+            return;
+        }
+        int at = 0;
+        for (String line : face.group(1).split("\n")) {
+            String own = line.strip().replaceAll("\\);$", ") {");
+            int found = source.indexOf(own, at);
+            holds("the source says, in the document's order: " + own, found >= 0 || own.equals("}"));
+            at = Math.max(at, found);
+        }
+        Matcher heading = Pattern.compile("Ahead of the calls `(\\w+)`.* the interface says: (---- .*)\\.").matcher(document);
+        while (heading.find()) {
+            int says = source.indexOf("// " + heading.group(2) + "\n");
+            int next = source.indexOf("    public int ", says);
+            holds(heading.group(2) + " stands right ahead of " + heading.group(1),
+                says >= 0 && next >= 0 && source.startsWith("    public int " + heading.group(1) + "(", next));
+        }
     }
 
     private static void inside(TreeSet<String> names) {
